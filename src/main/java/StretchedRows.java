@@ -135,9 +135,21 @@ public final class StretchedRows {
         root.width = root.clamped(width);
         root.left = 0;
         root.top = 0;
-        spreadAll();
-        stackAll();
-        placeAll();
+        for (int i = 0; i < thereCount; i++) {
+            if (there[i].laidOut) {
+                there[i].spread();
+            }
+        }
+        for (int i = thereCount - 1; i >= 0; i--) {
+            if (there[i].laidOut) {
+                there[i].stack();
+            }
+        }
+        for (int i = 0; i < thereCount; i++) {
+            if (there[i].laidOut) {
+                there[i].place();
+            }
+        }
         return root.height;
     }
 
@@ -259,32 +271,6 @@ public final class StretchedRows {
         }
     }
 
-    private void spreadAll() {
-        for (int i = 0; i < thereCount; i++) {
-            if (there[i].laidOut) {
-                there[i].spread();
-            }
-        }
-    }
-
-    private void stackAll() {
-        for (int i = thereCount - 1; i >= 0; i--) {
-            if (there[i].laidOut) {
-                there[i].stack();
-            }
-        }
-    }
-
-    private void placeAll() {
-        for (int i = 0; i < thereCount; i++) {
-            Node each = there[i];
-            if (each.laidOut && each.parent != null) {
-                each.left += each.parent.left;
-                each.top += each.parent.top;
-            }
-        }
-    }
-
     // STRETCH and BETWEEN shift nothing here: what they do besides is their callers' affair.
     private static int shiftWithin(int free, int how) {
         switch (how) {
@@ -358,6 +344,13 @@ public final class StretchedRows {
             return Math.max(Math.min(wanted, numbers[MOST]), numbers[LEAST]);
         }
 
+        final void place() {
+            if (parent != null) {
+                left += parent.left;
+                top += parent.top;
+            }
+        }
+
         final boolean covers(int x, int y) {
             return laidOut && x >= left && x < left + width && y >= top && y < top + height;
         }
@@ -368,12 +361,10 @@ public final class StretchedRows {
             super(number, parent, depth);
         }
 
-        @Override
         int findNaturalWidth() {
             return numbers[WIDE];
         }
 
-        @Override
         void stack() {
             height = numbers[HIGH];
         }
@@ -394,7 +385,6 @@ public final class StretchedRows {
             wordCount++;
         }
 
-        @Override
         int findNaturalWidth() {
             int sum = 0;
             for (int i = 0; i < wordCount; i++) {
@@ -403,7 +393,6 @@ public final class StretchedRows {
             return sum;
         }
 
-        @Override
         void stack() {
             lineCount = 0;
             int used = 0;
@@ -418,7 +407,6 @@ public final class StretchedRows {
             height = lineCount * TEXT_LINE_HEIGHT;
         }
 
-        @Override
         int brokenInto() {
             return lineCount;
         }
@@ -465,12 +453,10 @@ public final class StretchedRows {
             return count > 1 ? (count - 1) * numbers[GAP] : 0;
         }
 
-        @Override
         final int findNaturalWidth() {
             return findNaturalInside() + 2 * numbers[PAD];
         }
 
-        @Override
         final void spread() {
             inner = Math.max(width - 2 * numbers[PAD], 0);
             laidCount = shownCount;
@@ -490,7 +476,6 @@ public final class StretchedRows {
             lineEnds[lineCount - 1] = k + 1;
         }
 
-        @Override
         final void stack() {
             int y = numbers[PAD];
             int first = 0;
@@ -523,7 +508,6 @@ public final class StretchedRows {
             }
         }
 
-        @Override
         final Node lastChildAt(int x, int y) {
             for (int k = laidCount - 1; k >= 0; k--) {
                 if (laid[k].covers(x, y)) {
@@ -539,7 +523,6 @@ public final class StretchedRows {
             super(number, parent, depth);
         }
 
-        @Override
         int findNaturalInside() {
             int greatest = 0;
             for (int k = 0; k < shownCount; k++) {
@@ -548,14 +531,12 @@ public final class StretchedRows {
             return greatest;
         }
 
-        @Override
         void breakLines() {
             for (int k = 0; k < laidCount; k++) {
                 putInLine(k, true);
             }
         }
 
-        @Override
         void spreadChildren() {
             for (int k = 0; k < laidCount; k++) {
                 Node child = laid[k];
@@ -578,7 +559,6 @@ public final class StretchedRows {
             settled = new boolean[MOST_THERE];
         }
 
-        @Override
         int findNaturalInside() {
             int sum = gapsAmong(shownCount);
             for (int k = 0; k < shownCount; k++) {
@@ -587,12 +567,10 @@ public final class StretchedRows {
             return sum;
         }
 
-        @Override
         int brokenInto() {
             return lineCount;
         }
 
-        @Override
         void breakLines() {
             int used = 0;
             for (int k = 0; k < laidCount; k++) {
@@ -603,7 +581,6 @@ public final class StretchedRows {
             }
         }
 
-        @Override
         void spreadChildren() {
             int first = 0;
             for (int line = 0; line < lineCount; line++) {
@@ -731,7 +708,6 @@ public final class StretchedRows {
             return Math.max(trackCount, 1);
         }
 
-        @Override
         int findNaturalInside() {
             int tracks = tracksInUse();
             int sum = gapsAmong(tracks);
@@ -749,12 +725,10 @@ public final class StretchedRows {
             return greatest;
         }
 
-        @Override
         int brokenInto() {
             return lineCount;
         }
 
-        @Override
         void breakLines() {
             int tracks = tracksInUse();
             for (int k = 0; k < laidCount; k++) {
@@ -762,7 +736,6 @@ public final class StretchedRows {
             }
         }
 
-        @Override
         void spreadChildren() {
             widenTracks();
             int tracks = tracksInUse();

@@ -124,6 +124,9 @@ public final class LayoutTest {
         x.set(2, StretchedRows.BASIS, 21);
         x.layout(30);
         Check.box(x, 2, 2, 3, 21, 1);
+        x.set(2, StretchedRows.MOST, 18);
+        x.layout(30);
+        Check.box(x, 2, 2, 3, 18, 1);
     }
 
     private static void emptyColumn() {

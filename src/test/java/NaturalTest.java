@@ -2,6 +2,7 @@
 public final class NaturalTest {
     public static void main(String[] args) {
         byKind();
+        ofTexts();
         byHypo();
         asItIsNow();
         refusesWhatIsNotThere();
@@ -35,7 +36,25 @@ public final class NaturalTest {
         Check.same("a row that wraps", wrapped.natural(0), 50 + 7 + 6);
     }
 
+    private static void ofTexts() {
+        StretchedRows x = holding(StretchedRows.COLUMN);
+        x.node(0, StretchedRows.TEXT);
+        Check.same("a text without words", x.natural(1), 0);
+        x.word(1, 30);
+        Check.same("a text of one word", x.natural(1), 30);
+        x.word(1, 12);
+        Check.same("a text of two words", x.natural(1), 46);
+        x.word(1, 1);
+        Check.same("a text of three words", x.natural(1), 51);
+        x.layout(20);
+        Check.same("a text that is broken into lines", x.natural(1), 51);
+        Check.same("what holds it", x.natural(0), 57);
+    }
+
     private static void byHypo() {
+        StretchedRows column = holding(StretchedRows.COLUMN, 10, 40);
+        column.set(2, StretchedRows.MOST, 30);
+        Check.same("a column of clamped ones", column.natural(0), 36);
         StretchedRows x = holding(StretchedRows.ROW, 10, 40);
         x.set(1, StretchedRows.BASIS, 25);
         Check.same("a BASIS counts in the parent", x.natural(0), 65 + 7 + 6);

@@ -4,6 +4,8 @@ public final class RowTest {
         grows();
         growsWithinBounds();
         settlesByTheSum();
+        settlesAtOnce();
+        settlesByOne();
         shrinks();
         shrinksWithinBounds();
         shrinksToNothing();
@@ -99,6 +101,52 @@ public final class RowTest {
         widths("added is more", x, 100, 40, 60);
         x.set(1, StretchedRows.MOST, 30);
         widths("added is less", x, 100, 30, 70);
+    }
+
+    /** Rows where it makes a difference of 1, by the rounding, whether a child is settled before all others. */
+    private static void settlesAtOnce() {
+        StretchedRows fixed = row(4, 3, 1, 4);
+        setAll(fixed, StretchedRows.GROW, 3, 1, 3, 0);
+        setAll(fixed, StretchedRows.MOST, 5, 4, 5, 1000);
+        fixed.set(4, StretchedRows.LEAST, 5);
+        // The fourth at 5; a rest of 2 by 3, 1, 3: 1 each for the first two.
+        widths("no GROW", fixed, 15, 5, 4, 1, 5);
+
+        StretchedRows above = row(0, 2, 1, 1);
+        setAll(above, StretchedRows.GROW, 2, 3, 1, 1);
+        setAll(above, StretchedRows.MOST, 2, 1000, 0, 1);
+        above.set(4, StretchedRows.LEAST, 2);
+        // The third at 0; a rest of 4 by 2, 3, 1 settles the fourth at 2; a rest of 3 by 2, 3: 2 and 1.
+        widths("a base above HYPO", above, 7, 2, 3, 0, 2);
+
+        StretchedRows stiff = row(4, 5, 7, 4);
+        setAll(stiff, StretchedRows.SHRINK, 0, 3, 1, 3);
+        setAll(stiff, StretchedRows.MOST, 3, 2, 7, 1);
+        // The first at 3; 11 lack by 15, 7, 12: 4, 2, 3, and 1 more for the first two of them.
+        widths("no SHRINK", stiff, 8, 3, 0, 4, 1);
+
+        StretchedRows below = row(10, 4, 6, 10);
+        setAll(below, StretchedRows.SHRINK, 3, 1, 2, 2);
+        setAll(below, StretchedRows.MOST, 8, 6, 2, 1000);
+        setAll(below, StretchedRows.LEAST, 0, 0, 1, 12);
+        // The fourth at 12; 8 lack by 30, 4, 12 settles the third at 2; 4 lack by 30, 4: 4 and 0.
+        widths("a base below HYPO", below, 24, 6, 4, 2, 12);
+    }
+
+    private static void settlesByOne() {
+        StretchedRows x = row(0, 0, 0);
+        setAll(x, StretchedRows.GROW, 1, 1, 1);
+        x.set(1, StretchedRows.LEAST, 21);
+        widths("1 is added", x, 60, 21, 20, 19);
+        x.set(1, StretchedRows.LEAST, 0);
+        x.set(1, StretchedRows.MOST, 19);
+        widths("1 is taken away", x, 60, 19, 21, 20);
+        widths("nothing is", x, 57, 19, 19, 19);
+        // 20 each: 1 is added to the second and 2 are taken from the first, so it is the first that is
+        // settled; then 42 for the others, and 21 is just what the second needs.
+        x.set(1, StretchedRows.MOST, 18);
+        x.set(2, StretchedRows.LEAST, 21);
+        widths("2 are taken away and 1 is added", x, 60, 18, 21, 21);
     }
 
     private static void shrinks() {
@@ -206,6 +254,28 @@ public final class RowTest {
         x.set(0, StretchedRows.WRAP, 0);
         x.layout(110);
         Check.same("lines without WRAP", x.lines(0), 1);
+        wrapsWithinThePads();
+        wrapsByTheFirstHypo();
+    }
+
+    private static void wrapsWithinThePads() {
+        StretchedRows x = row(40, 40);
+        x.set(0, StretchedRows.WRAP, 1);
+        x.set(0, StretchedRows.PAD, 10);
+        x.layout(100);
+        Check.same("80 within the pads", x.lines(0), 1);
+        x.layout(99);
+        Check.same("79 within the pads", x.lines(0), 2);
+    }
+
+    private static void wrapsByTheFirstHypo() {
+        StretchedRows x = row(90, 40);
+        x.set(0, StretchedRows.WRAP, 1);
+        x.set(1, StretchedRows.MOST, 60);
+        x.layout(100);
+        Check.same("60 and 40 in 100", x.lines(0), 1);
+        x.layout(99);
+        Check.same("60 and 40 in 99", x.lines(0), 2);
     }
 
     private static void justifies() {
@@ -233,6 +303,11 @@ public final class RowTest {
         lines.set(0, StretchedRows.WRAP, 1);
         lines.set(0, StretchedRows.JUSTIFY, StretchedRows.END);
         lefts("each line on its own", lines, 100, 20, 60, 50);
+        StretchedRows between = row(40, 40, 50, 20);
+        between.set(0, StretchedRows.WRAP, 1);
+        between.set(0, StretchedRows.GAP, 4);
+        between.set(0, StretchedRows.JUSTIFY, StretchedRows.BETWEEN);
+        lefts("BETWEEN in each line on its own", between, 100, 0, 60, 0, 80);
     }
 
     private static void alignsInLines() {

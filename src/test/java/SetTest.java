@@ -57,6 +57,14 @@ public final class SetTest {
         Check.box(x, 1, 0, 0, 25, 10);
         Check.box(x, 2, 25, 0, 25, 10);
         Check.same("no WRAP", x.lines(0), 1);
+        x.set(1, StretchedRows.SHRINK, 1);
+        x.layout(50);
+        Check.same("SHRINK is 1 at first, as it is when set so", x.where(2, 2), 25);
+        x.set(1, StretchedRows.GROW, 0);
+        x.set(1, StretchedRows.ORDER, 0);
+        x.set(1, StretchedRows.BASIS, -1);
+        x.layout(200);
+        Check.same("so are GROW, ORDER and BASIS", x.where(2, 0), 40);
         x.layout(1000);
         Check.same("MOST of the root", x.where(0, 2), 1000);
         x.layout(0);
