@@ -96,9 +96,27 @@ public final class ThrowsTest {
         Check.badState("node: the ninth", () -> deep.node(7, StretchedRows.BOX));
         Check.same("all that can be seen of the deep one", seen(deep, 60), seen(deep(), 60));
         Check.same("the next node", deep.node(6, StretchedRows.BOX), 8);
+        StretchedRows last = allMade();
+        Check.badState("node: 200 were made", () -> last.node(198, StretchedRows.BOX));
+        Check.same("all that can be seen of the last ones", seen(last, 60), seen(allMade(), 60));
         StretchedRows none = new StretchedRows();
         Check.badState("layout: no node is there", () -> none.layout(10));
         Check.same("all that can be seen of nothing", seen(none, 60), seen(new StretchedRows(), 60));
+    }
+
+    /** 200 were made, 198 and 199 are there; seen() does not look at these, but at their number, their height and at(). */
+    private static StretchedRows allMade() {
+        StretchedRows x = new StretchedRows();
+        for (int n = 0; n < 198; n++) {
+            x.node(StretchedRows.NONE, StretchedRows.ROW);
+            x.remove(n);
+        }
+        x.node(StretchedRows.NONE, StretchedRows.ROW);
+        x.node(198, StretchedRows.BOX);
+        x.set(199, StretchedRows.WIDE, 10);
+        x.set(199, StretchedRows.HIGH, 20);
+        x.layout(50);
+        return x;
     }
 
     private static StretchedRows full() {
