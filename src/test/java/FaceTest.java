@@ -2,13 +2,11 @@ import java.lang.reflect.Constructor;
 import java.lang.reflect.Field;
 import java.lang.reflect.Method;
 import java.lang.reflect.Modifier;
-import java.nio.file.Files;
-import java.nio.file.Path;
 import java.util.Arrays;
 import java.util.Set;
 import java.util.TreeSet;
 
-/** The public face, no more and no less, and what of LANGUAGE.md can be read off the file. */
+/** The public face, no more and no less. */
 public final class FaceTest {
     private static final String CONSTANTS = "NONE -1, BOX 0, TEXT 1, COLUMN 2, ROW 3, GRID 4, GROW 0, SHRINK 1, BASIS 2, LEAST 3, "
         + "MOST 4, ALIGN 5, ORDER 6, HIDDEN 7, WIDE 8, HIGH 9, GAP 10, PAD 11, JUSTIFY 12, WRAP 13, STRETCH 0, START 1, "
@@ -27,14 +25,13 @@ public final class FaceTest {
         "int nodes()"
     };
 
-    public static void main(String[] args) throws Exception {
+    public static void main(String[] args) throws IllegalAccessException {
         Class<?> face = StretchedRows.class;
         Check.same("the class", Modifier.toString(face.getModifiers()), "public final");
         constants(face);
         methods(face);
         constructors(face);
         nestedClasses(face);
-        source(Files.readString(Path.of("src/main/java/StretchedRows.java")));
         Check.end("FaceTest");
     }
 
@@ -95,12 +92,6 @@ public final class FaceTest {
             for (Field field : inside.getDeclaredFields()) {
                 Check.isTrue(field + " is static state", !Modifier.isStatic(field.getModifiers()));
             }
-        }
-    }
-
-    private static void source(String text) {
-        for (String word : new String[] {"import ", "package ", "->", "::", "try {", "finally", "synchronized", "assert ", "System.", "static {"}) {
-            Check.isTrue("the file has '" + word + "'", !text.contains(word));
         }
     }
 }
